@@ -1070,26 +1070,46 @@ public final class DishLines {
         private static final int MOST_NUMBER = 1000;
         private static final int MOST_TIMES = 20;
 
-        private static final int AT_END = 0;
-        private static final int WORD = 1;
-        private static final int DIGITS = 2;
-        private static final int SIGN = 3;
+        private static final int LETTER = 0;
+        private static final int DIGIT = 1;
+        private static final int OTHER = 2;
 
-        private static final String LAW_WORDS = "sort thing place long has sweet year mood";
-        private static final String ORDER_WORDS = "years houses done last long has";
-        private static final int ORDER_LONG = 4;
-        private static final int ORDER_HAS = 5;
+        /** TOKENS are numbers: a single byte is itself, then these, and from NUMBERS on what a NUMBER tells. */
+        private static final int AT_END = 256;
+        private static final int NO_WORD = 257;
+        private static final int WEIGHS_WORD = 258;
+        private static final int BARS = 259;
+        private static final int BORN = 260;
+        private static final int TIMES = 261;
+        private static final int IF = 262;
+        private static final int OR = 263;
+        private static final int AND = 264;
+        private static final int NOT = 265;
+        private static final int AT = 266;
+        private static final int FIRST_SORT = 267;
+        private static final int LAST_SORT = 271;
+        private static final int FIRST_OF_LAW = 272;
+        private static final int LONG = 275;
+        private static final int HAS = 276;
+        private static final int YEAR = 278;
+        private static final int LAST_OF_LAW = 279;
+        private static final int FIRST_OF_ORDERS = 280;
+        private static final int LAST_OF_ORDERS = 283;
+        private static final int NUMBERS = 1000;
+        /** All words from WEIGHS_WORD on; the sorts and each language's words are in the order of their numbers. */
+        private static final String ALL_WORDS =
+            "weighs bars born times if or and not at out in swap double stand sort thing place long has sweet year mood years houses done last";
 
         private final int[] bytes = new int[MOST_BYTES];
-        /** No token gives more than one instruction, and one more closes a SUM or a TEST. */
+        private final int[] tokens = new int[MOST_BYTES + 1];
+        private final int[] places = new int[MOST_BYTES + 1];
+        /** No TOKEN gives more than one instruction, and one more closes a SUM or a TEST. */
         final Text draft = new Text(MOST_CLAUSES, 2 * MOST_BYTES);
         int size;
         int fault = NONE;
         private boolean inOrders;
-        private int kind;
-        private int start;
-        private int stop;
-        private int value;
+        private int now;
+        private int token;
         private int parts;
 
         boolean hasRoomFor(int more) {
@@ -1128,18 +1148,19 @@ public final class DishLines {
         boolean read(boolean asOrders) {
             inOrders = asOrders;
             fault = NONE;
-            stop = 0;
             parts = 0;
             draft.clear();
-            next();
+            cutTokens();
+            now = 0;
+            token = tokens[0];
             for (int i = 0; i < MOST_CLAUSES; i++) {
                 if (!(inOrders ? orderClause() : lawClause())) {
                     return false;
                 }
-                if (kind == AT_END) {
+                if (token == AT_END) {
                     return true;
                 }
-                if (!isSign(';')) {
+                if (token != ';') {
                     return fail();
                 }
                 next();
@@ -1147,115 +1168,121 @@ public final class DishLines {
             return fail();
         }
 
-        private void next() {
-            start = stop;
-            while (start < size && byteAt(start) == ' ') {
-                start++;
+        private void cutTokens() {
+            int made = 0;
+            int place = 0;
+            while (place < size && made < MOST_BYTES) {
+                int kind = kindAt(place);
+                int behind = place + 1;
+                while (kind != OTHER && behind < size && kindAt(behind) == kind) {
+                    behind++;
+                }
+                if (byteAt(place) != ' ') {
+                    tokens[made] = tokenOf(kind, place, behind);
+                    places[made] = place;
+                    made++;
+                }
+                place = behind;
             }
-            stop = start;
-            kind = kindOf(start);
-            if (kind == SIGN) {
-                stop++;
-            }
-            value = 0;
-            while ((kind == WORD || kind == DIGITS) && stop < size && kindOf(stop) == kind) {
-                // beyond every limit one number is as good as another
-                value = kind == DIGITS ? Math.min(value * 10 + byteAt(stop) - '0', MOST_NUMBER + 1) : 0;
-                stop++;
-            }
+            tokens[made] = AT_END;
+            places[made] = size;
         }
 
-        private int kindOf(int place) {
-            if (place >= size) {
-                return AT_END;
-            }
+        private int kindAt(int place) {
             int sign = byteAt(place);
             if (sign >= 'a' && sign <= 'z') {
-                return WORD;
+                return LETTER;
             }
-            return sign >= '0' && sign <= '9' ? DIGITS : SIGN;
+            return sign >= '0' && sign <= '9' ? DIGIT : OTHER;
         }
 
-        private boolean fail() {
-            fault = start;
-            return false;
-        }
-
-        private boolean isSign(char sign) {
-            return kind == SIGN && byteAt(start) == sign;
-        }
-
-        private boolean isWord(String word) {
-            return wordIn(word) == 0;
-        }
-
-        /** Which word of a list with single blanks between this token is. */
-        private int wordIn(String list) {
-            if (kind != WORD) {
-                return NONE;
+        private int tokenOf(int kind, int from, int behind) {
+            if (kind == OTHER) {
+                return byteAt(from);
             }
-            int index = 0;
+            if (kind == LETTER) {
+                return wordOf(from, behind);
+            }
+            int value = 0;
+            for (int i = from; i < behind; i++) {
+                // beyond every limit one NUMBER is as good as another
+                value = Math.min(value * 10 + byteAt(i) - '0', MOST_NUMBER + 1);
+            }
+            return NUMBERS + value;
+        }
+
+        private int wordOf(int from, int behind) {
+            int word = WEIGHS_WORD;
             int letters = 0;
             boolean same = true;
-            for (int i = 0; i <= list.length(); i++) {
-                if (i < list.length() && list.charAt(i) != ' ') {
-                    same = same && letters < stop - start && byteAt(start + letters) == list.charAt(i);
+            for (int i = 0; i <= ALL_WORDS.length(); i++) {
+                if (i < ALL_WORDS.length() && ALL_WORDS.charAt(i) != ' ') {
+                    same = same && letters < behind - from && byteAt(from + letters) == ALL_WORDS.charAt(i);
                     letters++;
                     continue;
                 }
-                if (same && letters == stop - start) {
-                    return index;
+                if (same && letters == behind - from) {
+                    return word;
                 }
-                index++;
+                word++;
                 letters = 0;
                 same = true;
             }
-            return NONE;
+            return NO_WORD;
+        }
+
+        private void next() {
+            now = Math.min(now + 1, MOST_BYTES);
+            token = tokens[now];
+        }
+
+        private boolean fail() {
+            fault = places[now];
+            return false;
         }
 
         private boolean lawClause() {
-            int what = wordIn("weighs bars");
-            if (what == NONE) {
+            if (token != WEIGHS_WORD && token != BARS) {
                 return fail();
             }
-            draft.open(what);
+            int kind = token - WEIGHS_WORD;
+            draft.open(kind);
             next();
-            return (what != WEIGHS || sumFor(Text.SUM_AT)) && condition();
+            return (kind != WEIGHS || sumFor(Text.SUM_AT)) && condition();
         }
 
         private boolean orderClause() {
-            int what = wordIn("born year");
-            if (what == NONE) {
+            boolean isBirth = token == BORN;
+            if (!isBirth && token != YEAR) {
                 return fail();
             }
             draft.open(TURN_YEAR);
             next();
-            if (!sumFor(Text.SUM_AT) || (what == 0 && !how())) {
+            if (!sumFor(Text.SUM_AT) || (isBirth && !how())) {
                 return false;
             }
-            if (isWord("times")) {
+            if (token == TIMES) {
                 next();
-                if (kind != DIGITS || value < 1 || value > MOST_TIMES) {
+                if (token < NUMBERS + 1 || token > NUMBERS + MOST_TIMES) {
                     return fail();
                 }
-                draft.set(Text.TIMES, value);
+                draft.set(Text.TIMES, token - NUMBERS);
                 next();
             }
             return condition();
         }
 
         private boolean how() {
-            // in the order of the sorts' numbers
-            int sort = wordIn("out in swap double stand");
-            if (sort == NONE) {
+            if (token < FIRST_SORT || token > LAST_SORT) {
                 return fail();
             }
+            int sort = token - FIRST_SORT;
             draft.set(Text.KIND, sort);
             next();
             if (sort == IN && !sumFor(Text.THING_AT)) {
                 return false;
             }
-            if (!isWord("at")) {
+            if (token != AT) {
                 return fail();
             }
             next();
@@ -1263,7 +1290,7 @@ public final class DishLines {
         }
 
         private boolean condition() {
-            if (!isWord("if")) {
+            if (token != IF) {
                 return true;
             }
             next();
@@ -1289,7 +1316,7 @@ public final class DishLines {
             if (!both(depth)) {
                 return false;
             }
-            for (int i = 0; i < MOST_BYTES && isWord("or"); i++) {
+            for (int i = 0; i < MOST_BYTES && token == OR; i++) {
                 int jump = draft.emit(Machine.JUMP_IF_SO, 0);
                 next();
                 if (!both(depth)) {
@@ -1304,7 +1331,7 @@ public final class DishLines {
             if (!plain(depth)) {
                 return false;
             }
-            for (int i = 0; i < MOST_BYTES && isWord("and"); i++) {
+            for (int i = 0; i < MOST_BYTES && token == AND; i++) {
                 int jump = draft.emit(Machine.JUMP_IF_NOT, 0);
                 next();
                 if (!plain(depth)) {
@@ -1318,11 +1345,11 @@ public final class DishLines {
         private boolean plain(int depth) {
             boolean turned = false;
             // a loop, as a TEXT may have a hundred of them in a row
-            for (int i = 0; i < MOST_BYTES && isWord("not"); i++) {
+            for (int i = 0; i < MOST_BYTES && token == NOT; i++) {
                 turned = !turned;
                 next();
             }
-            if (!(isSign('(') ? inRound(depth) : comparison(depth))) {
+            if (!(token == '(' ? inRound(depth) : comparison(depth))) {
                 return false;
             }
             if (turned) {
@@ -1339,7 +1366,7 @@ public final class DishLines {
             if (!test(depth + 1)) {
                 return false;
             }
-            if (!isSign(')')) {
+            if (token != ')') {
                 return fail();
             }
             next();
@@ -1350,7 +1377,7 @@ public final class DishLines {
             if (!sum(depth)) {
                 return false;
             }
-            int op = opOf('<', Machine.LESS, '>', Machine.MORE, '=', Machine.SAME);
+            int op = opOf(Machine.LESS, Machine.SAME);
             if (op == NONE) {
                 return fail();
             }
@@ -1362,36 +1389,18 @@ public final class DishLines {
             return true;
         }
 
-        private int opOf(char one, int oneOp, char two, int twoOp, char three, int threeOp) {
-            if (isSign(one)) {
-                return oneOp;
-            }
-            if (isSign(two)) {
-                return twoOp;
-            }
-            return isSign(three) ? threeOp : NONE;
-        }
-
-        private int sumOp() {
-            return opOf('+', Machine.ADD, '-', Machine.TAKE, '-', Machine.TAKE);
-        }
-
-        private int termOp() {
-            return opOf('*', Machine.TIMES, '/', Machine.DIVIDE, '%', Machine.REST);
-        }
-
         private boolean sum(int depth) {
             if (!term(depth)) {
                 return false;
             }
-            int op = sumOp();
+            int op = opOf(Machine.ADD, Machine.TAKE);
             for (int i = 0; i < MOST_BYTES && op != NONE; i++) {
                 next();
                 if (!term(depth)) {
                     return false;
                 }
                 draft.emit(op, 0);
-                op = sumOp();
+                op = opOf(Machine.ADD, Machine.TAKE);
             }
             return true;
         }
@@ -1400,33 +1409,71 @@ public final class DishLines {
             if (!part(depth)) {
                 return false;
             }
-            int op = termOp();
+            int op = opOf(Machine.TIMES, Machine.REST);
             for (int i = 0; i < MOST_BYTES && op != NONE; i++) {
                 next();
                 if (!part(depth)) {
                     return false;
                 }
                 draft.emit(op, 0);
-                op = termOp();
+                op = opOf(Machine.TIMES, Machine.REST);
             }
             return true;
         }
 
+        /** The instruction that this TOKEN is a sign for, if it is one of those asked for. */
+        private int opOf(int low, int high) {
+            int op;
+            switch (token) {
+                case '+':
+                    op = Machine.ADD;
+                    break;
+                case '-':
+                    op = Machine.TAKE;
+                    break;
+                case '*':
+                    op = Machine.TIMES;
+                    break;
+                case '/':
+                    op = Machine.DIVIDE;
+                    break;
+                case '%':
+                    op = Machine.REST;
+                    break;
+                case '<':
+                    op = Machine.LESS;
+                    break;
+                case '>':
+                    op = Machine.MORE;
+                    break;
+                case '=':
+                    op = Machine.SAME;
+                    break;
+                default:
+                    op = NONE;
+                    break;
+            }
+            return op >= low && op <= high ? op : NONE;
+        }
+
         private boolean part(int depth) {
-            if (isSign('[')) {
+            if (token == '[') {
                 return inSquare(depth);
             }
-            if (parts >= MOST_PARTS) {
+            if (parts >= MOST_PARTS || token > NUMBERS + MOST_NUMBER) {
                 return fail();
             }
             parts++;
-            if (kind != DIGITS) {
-                return inOrders ? orderWord() : lawWord();
+            if (token >= NUMBERS) {
+                draft.emit(Machine.NUMBER, token - NUMBERS);
+                next();
+                return true;
             }
-            if (value > MOST_NUMBER) {
+            int word = inOrders ? orderWord() : lawWord();
+            if (word == NONE) {
                 return fail();
             }
-            draft.emit(Machine.NUMBER, value);
+            draft.emit(Machine.WORD, word);
             next();
             return true;
         }
@@ -1439,52 +1486,37 @@ public final class DishLines {
             if (!sum(depth + 1)) {
                 return false;
             }
-            if (!isSign(']')) {
+            if (token != ']') {
                 return fail();
             }
             next();
             return true;
         }
 
-        private boolean lawWord() {
-            int word = wordIn(LAW_WORDS);
-            if (word == NONE) {
-                return fail();
-            }
-            draft.emit(Machine.WORD, word);
-            next();
-            return true;
+        private int lawWord() {
+            return token >= FIRST_OF_LAW && token <= LAST_OF_LAW ? token - FIRST_OF_LAW : NONE;
         }
 
-        private boolean orderWord() {
-            int word = wordIn(ORDER_WORDS);
-            if (word == NONE) {
-                return fail();
+        /** Goes on to the word's last TOKEN, or to the one that can't stand there. */
+        private int orderWord() {
+            if (token >= FIRST_OF_ORDERS && token <= LAST_OF_ORDERS) {
+                return WORD_YEARS + token - FIRST_OF_ORDERS;
+            }
+            if (token != LONG && token != HAS) {
+                return NONE;
+            }
+            boolean isLong = token == LONG;
+            next();
+            int house = token - NUMBERS;
+            if (house < 0 || house >= MOST_HOUSES) {
+                return NONE;
+            }
+            if (isLong) {
+                return WORD_LONG + house;
             }
             next();
-            if (word == ORDER_LONG || word == ORDER_HAS) {
-                return houseWord(word == ORDER_HAS);
-            }
-            draft.emit(Machine.WORD, word);
-            return true;
-        }
-
-        private boolean houseWord(boolean ofThing) {
-            int house = value;
-            if (kind != DIGITS || house >= MOST_HOUSES) {
-                return fail();
-            }
-            next();
-            if (!ofThing) {
-                draft.emit(Machine.WORD, WORD_LONG + house);
-                return true;
-            }
-            if (kind != DIGITS || value >= THINGS) {
-                return fail();
-            }
-            draft.emit(Machine.WORD, WORD_HAS + house * THINGS + value);
-            next();
-            return true;
+            int thing = token - NUMBERS;
+            return isThing(thing) ? WORD_HAS + house * THINGS + thing : NONE;
         }
     }
 
@@ -1828,9 +1860,13 @@ public final class DishLines {
 
         private void undoOut() {
             for (int place = 0; place <= plate.length && plate.hasRoomAt(place); place++) {
+                // ranks with the other THINGS there follow at even distances
+                int lowest = plate.with(place, 0);
+                int unit = POWER[plate.length - place];
                 for (int thing = 0; thing < THINGS; thing++) {
-                    int rank = plate.with(place, thing);
-                    if (isNew(rank) && scale.weightOf(OUT, thing, place, plate.length + 1, plate.held[thing] + 1) != NONE) {
+                    int rank = lowest + thing * unit;
+                    int held = plate.held[thing] + 1;
+                    if (isNew(rank) && scale.weightOf(OUT, thing, place, plate.length + 1, held) != NONE) {
                         note(rank);
                     }
                 }
@@ -1875,7 +1911,8 @@ public final class DishLines {
                         continue;
                     }
                     int rank = plate.replaced(place, thing);
-                    if (isNew(rank) && scale.weightOf(STAND, thing, place, plate.length, plate.held[thing] + 1) != NONE) {
+                    int held = plate.held[thing] + 1;
+                    if (isNew(rank) && scale.weightOf(STAND, thing, place, plate.length, held) != NONE) {
                         note(rank);
                     }
                 }
