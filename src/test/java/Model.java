@@ -210,6 +210,11 @@ final class Model {
         return tape.size();
     }
 
+    /** A single byte, which only tests can bring. */
+    void append(char sign) {
+        tape.add((int) sign);
+    }
+
     int end(int n) {
         if (n < 0 || n > tape.size()) {
             return -1;

@@ -75,6 +75,11 @@ public final class TextTest {
         lawFault(";", 0);
         lawFault("bars bars", 5);
         lawFault("barsif sort=1", 0);
+        lawFault("barsz", 0);
+        lawFault("bars`", 4);
+        lawFault("bars{", 4);
+        lawFault("weighs 1:", 8);
+        lawFault("weighs 9a", 8);
         lawFault("bars if sort=1", NO_FAULT);
         lawFault("bars if sort", 12);
         lawFault("bars if sort = 1 2", 17);
