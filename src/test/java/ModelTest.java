@@ -9,11 +9,18 @@ public final class ModelTest {
     private final DishLines x = new DishLines();
     private final Model y = new Model();
     private final int run;
+    /** Asked for again and again, so that an old answer kept too long would be seen. */
+    private final int pet;
+    private final int petGoal;
+    private final int petBits;
     private String told = "";
 
     private ModelTest(int run) {
         this.run = run;
         this.random = new Random(run * 7919L + 17);
+        this.pet = dish();
+        this.petGoal = dish();
+        this.petBits = below(31);
     }
 
     public static void main(String[] args) {
@@ -71,7 +78,7 @@ public final class ModelTest {
     private void play() {
         int length = 40 + below(160);
         // the heavy questions are asked seldom: the Model is slow
-        int heavy = 6;
+        int heavy = run % 10 == 0 ? 40 : 6;
         for (int i = 0; i < length; i++) {
             int kind = below(100);
             if (kind < 52) {
@@ -202,7 +209,7 @@ public final class ModelTest {
     }
 
     private void ask(int kind) {
-        int dish = dish();
+        int dish = seldom(3) ? pet : dish();
         int i = seldom(3) ? -1 : number(-1, 12);
         int bits = bits();
         int n = number(0, 2);
@@ -240,7 +247,8 @@ public final class ModelTest {
                 same("poor(" + i + ")", x.poor(i), y.poor(i));
                 break;
             case 7:
-                int to = seldom(3) || x.changes(dish, -1) <= 0 ? dish() : x.changes(dish, below(x.changes(dish, -1)));
+                int made = Math.max(1, x.changes(dish, -1));
+                int to = seldom(3) ? petGoal : Math.max(0, x.changes(dish, below(made)));
                 same("odds(" + dish + ", " + to + ", " + n + ")", x.odds(dish, to, n), y.odds(dish, to, n));
                 break;
             case 8:
@@ -273,9 +281,10 @@ public final class ModelTest {
     }
 
     private void askHeavily(int kind) {
-        int dish = dish();
-        int to = dish();
-        int bits = bits();
+        boolean again = seldom(2);
+        int dish = again ? pet : dish();
+        int to = again ? petGoal : dish();
+        int bits = again ? petBits : bits();
         switch (kind) {
             case 0:
                 same("steps(" + dish + ", " + to + ")", x.steps(dish, to), y.steps(dish, to));

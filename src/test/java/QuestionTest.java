@@ -15,6 +15,8 @@ public final class QuestionTest {
         promise29();
         promise30();
         promise31();
+        againInAnotherYear();
+        againUnderOtherRules();
         Check.end();
     }
 
@@ -430,5 +432,62 @@ public final class QuestionTest {
         x.put(5, 2, 3);
         due("31 a ring at its end", x.stood(1), -1);
         due("31 the empty one still", x.stood(0), 0);
+    }
+
+    /** What was worked out for one YEAR must not answer for another. */
+    private static void againInAnotherYear() {
+        DishLines x = new DishLines();
+        x.house(-1, 0, 1);
+        x.house(-1, 0, 12);
+        Check.rule(x, "bars if year = 1 and sort = 1;weighs 0 if year = 2 and sort = 0");
+        int[][] want = {{1, 1, 1, 2, 1}, {-1, 1, 1, 1, 1}, {1, 1, 1, 2, 1}};
+        for (int round = 0; round < 2; round++) {
+            for (int year = 0; year < 3; year++) {
+                x.terms(0, year);
+                due("20 again, " + year, x.steps(1, 12), want[year][0]);
+                due("21 again, " + year, x.way(12, 1, 1), want[year][1]);
+                due("25 again, " + year, x.first(3, 0), want[year][2]);
+                due("26 again, " + year, x.lines(3, 1), want[year][3]);
+                due("27 again, " + year, x.odds(1, 0, 1), new long[] {71428571428L, 500000000000L, 0}[year]);
+                due("28 again, " + year, x.likely(1, 1), new int[] {11, 0, 11}[year]);
+            }
+        }
+    }
+
+    /** Nor what was worked out under rules that have gone. */
+    private static void againUnderOtherRules() {
+        DishLines x = new DishLines();
+        x.house(-1, 0, 1);
+        x.house(-1, 0, 12);
+        x.image(0);
+        for (int round = 0; round < 2; round++) {
+            due("20 first", x.steps(1, 12), 1);
+            due("25 first", x.first(3, 1), 2);
+            due("26 first", x.lines(3, 1), 2);
+            due("27 first", x.odds(1, 12, 1), 71428571428L);
+            x.put(1, 1, 0);
+            due("20 not got", x.steps(1, 12), -1);
+            due("25 not got", x.first(3, 1), 1);
+            due("26 not got", x.lines(3, 3), 100);
+            due("27 not got", x.odds(1, 12, 1), 0);
+            x.back(0);
+            due("20 back", x.steps(1, 12), 1);
+            Check.rule(x, "weighs 3 if mood = 2 and thing = 1;bars if sweet = 5");
+            due("27 mood 0", x.odds(1, 12, 1), 71428571428L);
+            x.terms(1, 2);
+            due("27 mood 2", x.odds(1, 12, 1), 166666666666L);
+            x.put(1, 0, 5);
+            due("27 sweet 5", x.odds(1, 12, 1), 0);
+            due("20 sweet 5", x.steps(1, 12), -1);
+            x.force(-1);
+            due("20 no law", x.steps(1, 12), 1);
+            x.house(-1, 0, 1);
+            due("25 another house", x.first(7, 1), 1);
+            due("26 another house", x.lines(7, 1), 6);
+            x.undo();
+            x.house(-1, 0, 12);
+            due("25 yet another", x.first(7, 2), 12);
+            x.back(0);
+        }
     }
 }
