@@ -387,10 +387,11 @@ public final class DishLines {
         }
         if (!pedigree.isOf(told, valley.stamp)) {
             pedigree.take(told, valley.stamp);
+            // all STEPS to one goal behind one another, as they come from one table
             for (int i = 0; i < size * size; i++) {
-                int from = valley.dish[pedigree.houseAt(i / size)];
-                int to = valley.dish[pedigree.houseAt(i % size)];
-                pedigree.setSteps(i / size, i % size, paths.stepsFrom(from, to, valley.year));
+                int from = valley.dish[pedigree.houseAt(i % size)];
+                int to = valley.dish[pedigree.houseAt(i / size)];
+                pedigree.setSteps(i % size, i / size, paths.stepsFrom(from, to, valley.year));
             }
             pedigree.search();
         }
@@ -723,11 +724,24 @@ public final class DishLines {
         }
 
         static int lengthOf(int rank) {
-            int length = 0;
-            while (length < MOST_PINCHES && rank >= START[length + 1]) {
-                length++;
+            // from the longest on, as most DISHES are of that kind
+            int length = MOST_PINCHES;
+            while (length > 0 && rank < START[length]) {
+                length--;
             }
             return length;
+        }
+
+        /** How many PINCHES of each THING there are, three bits each. */
+        static int tasteOf(int rank) {
+            int length = lengthOf(rank);
+            int rest = rank - START[length];
+            int bits = 0;
+            for (int i = 0; i < length; i++) {
+                bits += 1 << 3 * (rest % THINGS);
+                rest /= THINGS;
+            }
+            return bits;
         }
 
         static int leftOut(int rank, int thing) {
@@ -813,7 +827,7 @@ public final class DishLines {
         private final int[] mother = new int[MOST_HOUSES];
         private final int[] since = new int[MOST_HOUSES];
         private final int[] dish = new int[MOST_HOUSES];
-        /** How many PINCHES of each THING a HOUSE's DISH has, three bits each. */
+        /** Of each HOUSE's DISH, as tasteOf tells. */
         private final int[] taste = new int[MOST_HOUSES];
         private final Text[] laws = new Text[MOST_LAWS];
         private int houses;
@@ -866,21 +880,10 @@ public final class DishLines {
             mother[houses] = itsMother;
             since[houses] = itsYear;
             dish[houses] = rank;
-            taste[houses] = tasteOf(rank);
+            taste[houses] = Plate.tasteOf(rank);
             stamp++;
             houses++;
             return houses - 1;
-        }
-
-        private static int tasteOf(int rank) {
-            int length = Plate.lengthOf(rank);
-            int rest = rank - START[length];
-            int bits = 0;
-            for (int i = 0; i < length; i++) {
-                bits += 1 << 3 * (rest % THINGS);
-                rest /= THINGS;
-            }
-            return bits;
         }
 
         void keepHouses(int some) {
@@ -1004,6 +1007,7 @@ public final class DishLines {
         final int[] code;
         int size;
         int used;
+        boolean asksYear;
 
         Text(int clauseRoom, int codeRoom) {
             clauses = new int[clauseRoom * FIELDS];
@@ -1016,12 +1020,14 @@ public final class DishLines {
             System.arraycopy(code, 0, copy.code, 0, used);
             copy.size = size;
             copy.used = used;
+            copy.asksYear = asksYear;
             return copy;
         }
 
         void clear() {
             size = 0;
             used = 0;
+            asksYear = false;
         }
 
         void open(int kind) {
@@ -1494,6 +1500,7 @@ public final class DishLines {
         }
 
         private int lawWord() {
+            draft.asksYear |= token == YEAR;
             return token >= FIRST_OF_LAW && token <= LAST_OF_LAW ? token - FIRST_OF_LAW : NONE;
         }
 
@@ -1634,13 +1641,19 @@ public final class DishLines {
 
         /** To be called ahead of what follows, as the rules may be others now. */
         void open(int forYear) {
-            if (rules == valley.rules && year == forYear) {
+            boolean sameYear = year == forYear || text == null || !text.asksYear;
+            if (rules == valley.rules && sameYear) {
                 return;
             }
             rules = valley.rules;
             year = forYear;
             text = valley.textInForce();
             turn++;
+        }
+
+        /** Whether no LAW is asked, so that how many PINCHES there are does not matter. */
+        boolean isFree() {
+            return text == null;
         }
 
         /** What a CHANGE weighs that the PINCHES allow, NONE if it can't be. */
@@ -1795,11 +1808,13 @@ public final class DishLines {
     /**
      * STEPS to one DISH from all others, in one YEAR. It is sought backwards from that DISH, and only as far as
      * it was asked for: a later question goes on from there.
+     *
+     * <p>This is where most of the time goes: ranks are worked out by arithmetic while the digits of a DISH are
+     * taken off from the right, and rules are asked only for DISHES that were not yet found.
      */
     private static final class Distances {
         private final Valley valley;
         private final Scale scale;
-        private final Plate plate = new Plate();
         final short[] far = new short[DISHES];
         private final short[] queue = new short[DISHES];
         private int head;
@@ -1808,6 +1823,8 @@ public final class DishLines {
         private int goal;
         private int year;
         private int rules;
+        /** The THINGS that stand in for another, as bits. */
+        private int standers;
 
         Distances(Valley valley, Scale scale) {
             this.valley = valley;
@@ -1822,6 +1839,10 @@ public final class DishLines {
             goal = rank;
             year = itsYear;
             rules = valley.rules;
+            standers = 0;
+            for (int i = 0; i < THINGS; i++) {
+                standers |= valley.standIn[i] == NONE ? 0 : 1 << valley.standIn[i];
+            }
             Arrays.fill(far, (short) NONE);
             head = 0;
             tail = 0;
@@ -1831,18 +1852,24 @@ public final class DishLines {
 
         /** On by some DISHES at most, till the STEPS from one (NONE: from none) are known. */
         void spread(int rank, int most) {
+            int sought = rank >= 0 && rank < DISHES ? rank : NONE;
             for (int turn = 0; turn < most && head < tail && head < DISHES; turn++) {
-                if (rank >= 0 && rank < DISHES && far[rank] != NONE) {
+                if (sought != NONE && far[sought] != NONE) {
                     return;
                 }
                 int from = queue[head];
                 head++;
                 next = (short) (far[from] + 1);
-                plate.load(from);
-                undoOut();
-                undoInAndDouble();
-                undoSwap();
-                undoStand();
+                int length = Plate.lengthOf(from);
+                int taste = scale.isFree() ? 0 : Plate.tasteOf(from);
+                undoInAndDouble(from, length, taste);
+                undoSwap(from, length, taste);
+                if (length < MOST_PINCHES) {
+                    undoOut(from, length, taste);
+                }
+                if (standers != 0) {
+                    undoStand(from, length, taste);
+                }
             }
         }
 
@@ -1854,68 +1881,79 @@ public final class DishLines {
             }
         }
 
-        private boolean isNew(int rank) {
-            return rank >= 0 && rank < DISHES && far[rank] == NONE;
-        }
-
-        private void undoOut() {
-            for (int place = 0; place <= plate.length && plate.hasRoomAt(place); place++) {
-                // ranks with the other THINGS there follow at even distances
-                int lowest = plate.with(place, 0);
-                int unit = POWER[plate.length - place];
+        private void undoOut(int to, int length, int taste) {
+            int high = to - START[length];
+            int low = 0;
+            int unit = 1;
+            for (int place = length; place >= 0; place--) {
+                int rank = START[length + 1] + high * THINGS * unit + low;
                 for (int thing = 0; thing < THINGS; thing++) {
-                    int rank = lowest + thing * unit;
-                    int held = plate.held[thing] + 1;
-                    if (isNew(rank) && scale.weightOf(OUT, thing, place, plate.length + 1, held) != NONE) {
+                    if (far[rank] == NONE
+                        && scale.weightOf(OUT, thing, place, length + 1, (taste >> 3 * thing & 7) + 1) != NONE) {
+                        note(rank);
+                    }
+                    rank += unit;
+                }
+                low += high % THINGS * unit;
+                high /= THINGS;
+                unit *= THINGS;
+            }
+        }
+
+        private void undoInAndDouble(int to, int length, int taste) {
+            int high = to - START[length];
+            int low = 0;
+            int unit = 1;
+            int right = NONE;
+            for (int place = length - 1; place >= 0; place--) {
+                int thing = high % THINGS;
+                high /= THINGS;
+                int rank = START[length - 1] + high * unit + low;
+                if (far[rank] == NONE) {
+                    int held = (taste >> 3 * thing & 7) - 1;
+                    if (scale.weightOf(IN, thing, place, length - 1, held) != NONE
+                        || (right == thing && scale.weightOf(DOUBLE, thing, place, length - 1, held) != NONE)) {
                         note(rank);
                     }
                 }
+                low += thing * unit;
+                unit *= THINGS;
+                right = thing;
             }
         }
 
-        private void undoInAndDouble() {
-            for (int place = 0; place < plate.length; place++) {
-                int rank = plate.without(place);
-                if (!isNew(rank)) {
-                    continue;
-                }
-                int thing = plate.pinches[place];
-                int held = plate.held[thing] - 1;
-                boolean can = scale.weightOf(IN, thing, place, plate.length - 1, held) != NONE;
-                if (!can && place + 1 < plate.length && plate.pinches[place + 1] == thing) {
-                    can = scale.weightOf(DOUBLE, thing, place, plate.length - 1, held) != NONE;
-                }
-                if (can) {
+        private void undoSwap(int to, int length, int taste) {
+            int high = to - START[length];
+            int right = high % THINGS;
+            int unit = 1;
+            for (int place = length - 2; place >= 0; place--) {
+                high /= THINGS;
+                int thing = high % THINGS;
+                // what is at the place goes up to the sixfold unit, what is behind it comes down from there
+                int rank = to + (right - thing) * unit * (THINGS - 1);
+                if (far[rank] == NONE
+                    && scale.weightOf(SWAP, right, place, length, taste >> 3 * right & 7) != NONE) {
                     note(rank);
                 }
+                unit *= THINGS;
+                right = thing;
             }
         }
 
-        private void undoSwap() {
-            for (int place = 0; place + 1 < plate.length; place++) {
-                int rank = plate.swapped(place);
-                int thing = plate.pinches[place + 1];
-                if (isNew(rank) && scale.weightOf(SWAP, thing, place, plate.length, plate.held[thing]) != NONE) {
-                    note(rank);
-                }
-            }
-        }
-
-        private void undoStand() {
-            for (int thing = 0; thing < THINGS; thing++) {
-                if (valley.standIn[thing] == NONE) {
-                    continue;
-                }
-                for (int place = 0; place < plate.length; place++) {
-                    if (plate.pinches[place] != valley.standIn[thing]) {
-                        continue;
-                    }
-                    int rank = plate.replaced(place, thing);
-                    int held = plate.held[thing] + 1;
-                    if (isNew(rank) && scale.weightOf(STAND, thing, place, plate.length, held) != NONE) {
+        private void undoStand(int to, int length, int taste) {
+            int high = to - START[length];
+            int unit = 1;
+            for (int place = length - 1; place >= 0; place--) {
+                int stander = high % THINGS;
+                for (int thing = 0; thing < THINGS && (standers >> stander & 1) == 1; thing++) {
+                    int rank = to + (thing - stander) * unit;
+                    if (valley.standIn[thing] == stander && far[rank] == NONE
+                        && scale.weightOf(STAND, thing, place, length, (taste >> 3 * thing & 7) + 1) != NONE) {
                         note(rank);
                     }
                 }
+                high /= THINGS;
+                unit *= THINGS;
             }
         }
     }
@@ -2008,12 +2046,20 @@ public final class DishLines {
         }
     }
 
-    /** LINES of told HOUSES: all rows of MOTHERS are tried, in order. */
+    /** LINES of told HOUSES: once it is known how few STEPS they can have, the rows that have so few are tried. */
     private static final class Pedigree {
+        /** Above all STEPS that there can be, for what can't be reached. */
+        private static final int FAR = 1000000;
+
         private final int[] houses = new int[MOST_TOLD];
         private final int[] steps = new int[MOST_TOLD * MOST_TOLD];
         private final int[] mothers = new int[MOST_TOLD];
         private final int[] best = new int[MOST_TOLD];
+        /** By sets of told ones, as bits: the fewest STEPS to have them all of one of them. */
+        private final int[] fewest = new int[1 << MOST_TOLD];
+        /** The nearest MOTHER's STEPS of those from a place on, together, and the most of one. */
+        private final int[] floor = new int[MOST_TOLD + 1];
+        private final int[] dearest = new int[MOST_TOLD + 1];
         private int size;
         private int told;
         private int stamp;
@@ -2043,7 +2089,7 @@ public final class DishLines {
         void setSteps(int from, int to, int some) {
             int index = from * MOST_TOLD + to;
             if (index >= 0 && index < steps.length) {
-                steps[index] = some;
+                steps[index] = some == NONE ? FAR : some;
             }
         }
 
@@ -2056,18 +2102,58 @@ public final class DishLines {
 
         void search() {
             rows = 0;
-            seek(0, NONE, 0);
+            workFewest();
+            workFloor();
+            leastSum = fewest[(1 << size) - 1];
+            if (leastSum < FAR) {
+                seek(0, NONE, 0);
+            }
+        }
+
+        /** A set grows by one daughter at a time, so each smaller set stands before it is asked for. */
+        private void workFewest() {
+            for (int set = 1; set < 1 << size; set++) {
+                fewest[set] = Integer.bitCount(set) == 1 ? 0 : FAR;
+                for (int daughter = 0; daughter < size; daughter++) {
+                    int others = set & ~(1 << daughter);
+                    if (others != set && others != 0) {
+                        fewest[set] = Math.min(fewest[set], fewest[others] + nearest(others, daughter));
+                    }
+                }
+            }
+        }
+
+        private int nearest(int set, int daughter) {
+            int least = FAR;
+            for (int i = 0; i < size; i++) {
+                if ((set >> i & 1) == 1) {
+                    least = Math.min(least, steps[i * MOST_TOLD + daughter]);
+                }
+            }
+            return least;
+        }
+
+        private void workFloor() {
+            int all = (1 << size) - 1;
+            floor[size] = 0;
+            dearest[size] = 0;
+            for (int i = size - 1; i >= 0; i--) {
+                int least = nearest(all & ~(1 << i), i);
+                floor[i] = floor[i + 1] + least;
+                dearest[i] = Math.max(dearest[i + 1], least);
+            }
         }
 
         /** Tries all MOTHERS of the daughter's place and of those behind it; root is who comes of none, if any yet. */
         private void seek(int daughter, int root, int sum) {
-            if (rows > 0 && sum > leastSum) {
+            if (daughter >= size) {
+                if (root != NONE && sum == leastSum) {
+                    noteRow();
+                }
                 return;
             }
-            if (daughter >= size) {
-                if (root != NONE) {
-                    noteRow(sum);
-                }
+            int left = leastSum - sum - floor[daughter] + (root == NONE ? dearest[daughter] : 0);
+            if (left < 0) {
                 return;
             }
             if (root == NONE) {
@@ -2076,7 +2162,7 @@ public final class DishLines {
             }
             for (int i = 0; i < size; i++) {
                 int some = steps[i * MOST_TOLD + daughter];
-                if (some != NONE && !comesOf(i, daughter)) {
+                if (sum + some <= leastSum && !comesOf(i, daughter)) {
                     mothers[daughter] = i;
                     seek(daughter + 1, root, sum + some);
                 }
@@ -2092,10 +2178,8 @@ public final class DishLines {
             return now == other;
         }
 
-        private void noteRow(int sum) {
-            if (rows == 0 || sum < leastSum) {
-                leastSum = sum;
-                rows = 0;
+        private void noteRow() {
+            if (rows == 0) {
                 System.arraycopy(mothers, 0, best, 0, size);
             }
             rows++;
