@@ -955,8 +955,9 @@ public final class DishLines {
             return was;
         }
 
+        /** HOUSES as bits; 0 (none told) if one of them is not there, as no answer can be of such ones. */
         int toldOf(int bits) {
-            return bits & (1 << houses) - 1;
+            return bits >> houses == 0 ? bits : 0;
         }
 
         int groupsBy(int told, int things) {

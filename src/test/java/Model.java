@@ -575,14 +575,15 @@ final class Model {
         return i == -1 ? rising.size() : i >= 0 && i < rising.size() ? rising.get(i) : -1;
     }
 
+    /** Empty if none is told, or one that is not there. */
     private List<Integer> told(int bits) {
         List<Integer> told = new ArrayList<>();
-        for (int i = 0; i < houses.size(); i++) {
+        for (int i = 0; i < 32; i++) {
             if ((bits >> i & 1) == 1) {
                 told.add(i);
             }
         }
-        return told;
+        return told.stream().allMatch(i -> i < houses.size()) ? told : List.of();
     }
 
     int first(int bits, int what) {

@@ -71,8 +71,17 @@ public final class ModelTest {
         return seldom(4) ? number(0, 999) : number(0, 12);
     }
 
+    /** Mostly of HOUSES that are there, now and then with others among them. */
     private int bits() {
-        return seldom(6) ? random.nextInt() : below(1 << Math.min(12, x.count(0) + 1));
+        int there = below(1 << x.count(0));
+        if (seldom(6)) {
+            return seldom(2) ? random.nextInt() : there | 1 << below(32);
+        }
+        return there;
+    }
+
+    private int petBitsNow() {
+        return seldom(4) ? petBits : petBits & (1 << x.count(0)) - 1;
     }
 
     private void play() {
@@ -284,7 +293,7 @@ public final class ModelTest {
         boolean again = seldom(2);
         int dish = again ? pet : dish();
         int to = again ? petGoal : dish();
-        int bits = again ? petBits : bits();
+        int bits = again ? petBitsNow() : bits();
         switch (kind) {
             case 0:
                 same("steps(" + dish + ", " + to + ")", x.steps(dish, to), y.steps(dish, to));

@@ -15,6 +15,7 @@ public final class QuestionTest {
         promise29();
         promise30();
         promise31();
+        toldThatWent();
         againInAnotherYear();
         againUnderOtherRules();
         Check.end();
@@ -223,6 +224,48 @@ public final class QuestionTest {
         due("24 back again", x.poor(-1), 4);
     }
 
+    private interface Asked {
+        int of(int bits, int what);
+    }
+
+    /** One HOUSE that is not there, alone and with others that are, leaves nothing to be told of any. */
+    private static void notThere(String name, Asked asked, int houses, int mostWhat) {
+        int all = (1 << houses) - 1;
+        for (int what = 0; what <= mostWhat; what++) {
+            Check.holds(name + ": all that are, " + what, asked.of(all, what) >= 0);
+            for (int house : new int[] {houses, houses + 1, 11, 12, 31}) {
+                due(name + ": " + house + " alone, " + what, asked.of(1 << house, what), -1);
+                due(name + ": 0 and " + house + ", " + what, asked.of(1 | 1 << house, what), -1);
+                due(name + ": all and " + house + ", " + what, asked.of(all | 1 << house, what), -1);
+            }
+            due(name + ": all bits, " + what, asked.of(-1, what), -1);
+            Check.holds(name + ": all that are, again, " + what, asked.of(all, what) >= 0);
+        }
+    }
+
+    /** Who was there and is no more, and all twelve. */
+    private static void toldThatWent() {
+        DishLines x = new DishLines();
+        x.house(-1, 0, 1);
+        x.house(-1, 0, 2);
+        due("25 both", x.first(3, 0), 2);
+        due("26 both", x.lines(3, 0), 2);
+        due("29 both", x.tastings(3, 0), 1);
+        x.undo();
+        due("25 undone", x.first(3, 0), -1);
+        due("26 undone", x.lines(3, 0), -1);
+        due("29 undone", x.tastings(3, 0), -1);
+        for (int i = 1; i < 12; i++) {
+            x.house(-1, 0, 1);
+        }
+        due("25 twelve", x.first(4095, 2), 1);
+        due("25 a thirteenth", x.first(8191, 2), -1);
+        due("26 of twelve", x.lines(2049, 3), 0);
+        due("26 a thirteenth", x.lines(4097, 1), -1);
+        due("29 twelve", x.tastings(4095, 3), 1);
+        due("29 a thirteenth", x.tastings(8191, 3), -1);
+    }
+
     private static void promise25() {
         DishLines x = new DishLines();
         due("25 none", x.first(1, 0), -1);
@@ -242,7 +285,7 @@ public final class QuestionTest {
         due("25 two: lowest", x.first(3, 2), 1);
         due("25 what 3", x.first(7, 3), -1);
         due("25 what -1", x.first(7, -1), -1);
-        due("25 not there", x.first(8, 0), -1);
+        notThere("25 not there", x::first, 3, 2);
         x.house(-1, 5, 12);
         due("25 each house counts", x.first(11, 0), 2);
         due("25 each house counts: how many", x.first(11, 1), 1);
@@ -268,7 +311,7 @@ public final class QuestionTest {
         x.house(-1, 5, 1);
         x.house(-1, 5, 123);
         due("26 none told", x.lines(0, 0), -1);
-        due("26 not there", x.lines(16, 0), -1);
+        notThere("26 not there", x::lines, 4, 5);
         due("26 one", x.lines(8, 0), 0);
         due("26 one: rows", x.lines(8, 1), 1);
         due("26 one: mother", x.lines(8, 2), 100);
@@ -300,6 +343,7 @@ public final class QuestionTest {
         due("26 seven", x.lines(127, 0), -1);
         due("26 seven: rows", x.lines(127, 1), -1);
         due("26 six of seven", x.lines(126, 7) >= 0 ? 1 : 0, 1);
+        due("26 six and one not there", x.lines(126 + 128, 0), -1);
         x.undo();
         x.put(1, 1, 1);
         Check.rule(x, "bars if year = 3");
@@ -361,7 +405,7 @@ public final class QuestionTest {
         x.house(-1, 0, 21);
         x.house(-1, 0, 112);
         due("29 none told", x.tastings(0, 0), -1);
-        due("29 not there", x.tastings(32, 3), -1);
+        notThere("29 not there", x::tastings, 5, 3);
         due("29 one", x.tastings(1, 0), 0);
         due("29 one: groups", x.tastings(1, 3), 1);
         due("29 one: ways", x.tastings(1, 2), 1);
