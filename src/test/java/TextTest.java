@@ -160,31 +160,23 @@ public final class TextTest {
         due("15 run, though it can't be", x.fault(), -1);
     }
 
-    private static String repeated(String first, String more, int times) {
-        StringBuilder text = new StringBuilder(first);
-        for (int i = 0; i < times; i++) {
-            text.append(more);
-        }
-        return text.toString();
-    }
-
     private static void promise15Limits() {
-        lawFault(repeated("bars", ";bars", 11), NO_FAULT);
-        lawFault(repeated("bars", ";bars", 12), 60);
-        lawFault(repeated("bars", ";bars", 11) + "; )", 61);
-        lawFault(repeated("bars", ";bars", 11) + ";  ", 62);
-        orderFault(repeated("year 1", ";year 1", 11), NO_FAULT);
-        orderFault(repeated("year 1", ";year 1", 12), 84);
-        lawFault(repeated("weighs 1", "+1", 49), NO_FAULT);
-        lawFault(repeated("weighs 1", "+1", 50), 107);
-        lawFault(repeated("weighs 1", "+1", 47) + ";bars if 1=1", NO_FAULT);
-        lawFault(repeated("weighs 1", "+1", 48) + ";bars if 1=1", 115);
-        lawFault(repeated("weighs 1", "+1", 48) + ";bars if [1]=[[1]]", 119);
-        lawFault(repeated("weighs 1", "+1", 49) + "+[", 108);
-        lawFault(repeated("weighs 1", "+1", 49) + "+ sort", 108);
-        orderFault(repeated("year 1", "+1", 49) + " times 2", NO_FAULT);
-        orderFault(repeated("year 1", "+has 1 1", 49), NO_FAULT);
-        orderFault(repeated("year 1", "+long 1", 50), 350);
+        lawFault(Check.repeated("bars", ";bars", 11), NO_FAULT);
+        lawFault(Check.repeated("bars", ";bars", 12), 60);
+        lawFault(Check.repeated("bars", ";bars", 11) + "; )", 61);
+        lawFault(Check.repeated("bars", ";bars", 11) + ";  ", 62);
+        orderFault(Check.repeated("year 1", ";year 1", 11), NO_FAULT);
+        orderFault(Check.repeated("year 1", ";year 1", 12), 84);
+        lawFault(Check.repeated("weighs 1", "+1", 49), NO_FAULT);
+        lawFault(Check.repeated("weighs 1", "+1", 50), 107);
+        lawFault(Check.repeated("weighs 1", "+1", 47) + ";bars if 1=1", NO_FAULT);
+        lawFault(Check.repeated("weighs 1", "+1", 48) + ";bars if 1=1", 115);
+        lawFault(Check.repeated("weighs 1", "+1", 48) + ";bars if [1]=[[1]]", 119);
+        lawFault(Check.repeated("weighs 1", "+1", 49) + "+[", 108);
+        lawFault(Check.repeated("weighs 1", "+1", 49) + "+ sort", 108);
+        orderFault(Check.repeated("year 1", "+1", 49) + " times 2", NO_FAULT);
+        orderFault(Check.repeated("year 1", "+has 1 1", 49), NO_FAULT);
+        orderFault(Check.repeated("year 1", "+long 1", 50), 350);
         lawFault("weighs [[[[[[[[1]]]]]]]]", NO_FAULT);
         lawFault("weighs [[[[[[[[[1]]]]]]]]]", 15);
         lawFault("weighs [[[[[[[[1]]]]]]]]+[1]", NO_FAULT);
@@ -193,9 +185,9 @@ public final class TextTest {
         lawFault("bars if (((((((((1=1)))))))))", 16);
         lawFault("bars if (((((((([1]=1))))))))", 16);
         lawFault("bars if (((((((1=[[1]])))))))", 18);
-        lawFault(repeated("bars if", " not", 96) + " 1=1", NO_FAULT);
-        lawFault(repeated("bars if", " not", 98), 399);
-        lawFault(repeated("bars", " ", 396), NO_FAULT);
+        lawFault(Check.repeated("bars if", " not", 96) + " 1=1", NO_FAULT);
+        lawFault(Check.repeated("bars if", " not", 98), 399);
+        lawFault(Check.repeated("bars", " ", 396), NO_FAULT);
     }
 
     /** What a CHANGE weighs under a LAW; THING 0 has SWEET 4, THING 1 has SWEET 9, the YEAR is 70, the MOOD 8. */
