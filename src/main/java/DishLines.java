@@ -129,7 +129,7 @@ public final class DishLines {
             case 3:
                 return valley.daughtersOf(house);
             case 4:
-                return mother == NONE
+                return !valley.hasHouse(mother)
                     ? NONE : paths.stepsFrom(valley.dish[mother], valley.dish[house], valley.since[house]);
             case 5:
                 return valley.changedBack(house);
@@ -1239,7 +1239,7 @@ public final class DishLines {
         }
 
         private void next() {
-            now = Math.min(now + 1, MOST_BYTES);
+            now = now < MOST_BYTES ? now + 1 : now;
             token = tokens[now];
         }
 
@@ -1356,8 +1356,23 @@ public final class DishLines {
                 turned = !turned;
                 next();
             }
-            if (!(token == '(' ? inRound(depth) : comparison(depth))) {
-                return false;
+            if (token == '(') {
+                if (!inRound(depth)) {
+                    return false;
+                }
+            } else {
+                if (!sum(depth)) {
+                    return false;
+                }
+                int op = opOf(Machine.LESS, Machine.SAME);
+                if (op == NONE) {
+                    return fail();
+                }
+                next();
+                if (!sum(depth)) {
+                    return false;
+                }
+                draft.emit(op, 0);
             }
             if (turned) {
                 draft.emit(Machine.NOT, 0);
@@ -1377,22 +1392,6 @@ public final class DishLines {
                 return fail();
             }
             next();
-            return true;
-        }
-
-        private boolean comparison(int depth) {
-            if (!sum(depth)) {
-                return false;
-            }
-            int op = opOf(Machine.LESS, Machine.SAME);
-            if (op == NONE) {
-                return fail();
-            }
-            next();
-            if (!sum(depth)) {
-                return false;
-            }
-            draft.emit(op, 0);
             return true;
         }
 
@@ -1530,7 +1529,8 @@ public final class DishLines {
 
     /** Works out SUMS and TESTS: a TEST is 1 if it is so, else 0. */
     private static final class Machine {
-        static final long BROKEN = Long.MIN_VALUE;
+        /** Beyond what two numbers within the bounds can come to. */
+        static final long BROKEN = -(1L << 62);
         private static final long MOST = 1000000000;
 
         static final int STOP = 0;
@@ -1875,7 +1875,7 @@ public final class DishLines {
         }
 
         private void note(int rank) {
-            if (tail < DISHES) {
+            if (tail < DISHES && rank >= 0 && rank < DISHES) {
                 far[rank] = next;
                 queue[tail] = (short) rank;
                 tail++;
@@ -1888,7 +1888,8 @@ public final class DishLines {
             int unit = 1;
             for (int place = length; place >= 0; place--) {
                 int rank = START[length + 1] + high * THINGS * unit + low;
-                for (int thing = 0; thing < THINGS; thing++) {
+                boolean known = rank >= 0 && rank + (THINGS - 1) * unit < DISHES;
+                for (int thing = 0; thing < THINGS && known; thing++) {
                     if (far[rank] == NONE
                         && scale.weightOf(OUT, thing, place, length + 1, (taste >> 3 * thing & 7) + 1) != NONE) {
                         note(rank);
@@ -1910,7 +1911,7 @@ public final class DishLines {
                 int thing = high % THINGS;
                 high /= THINGS;
                 int rank = START[length - 1] + high * unit + low;
-                if (far[rank] == NONE) {
+                if (rank >= 0 && rank < DISHES && far[rank] == NONE) {
                     int held = (taste >> 3 * thing & 7) - 1;
                     if (scale.weightOf(IN, thing, place, length - 1, held) != NONE
                         || (right == thing && scale.weightOf(DOUBLE, thing, place, length - 1, held) != NONE)) {
@@ -1932,7 +1933,7 @@ public final class DishLines {
                 int thing = high % THINGS;
                 // what is at the place goes up to the sixfold unit, what is behind it comes down from there
                 int rank = to + (right - thing) * unit * (THINGS - 1);
-                if (far[rank] == NONE
+                if (rank >= 0 && rank < DISHES && far[rank] == NONE
                     && scale.weightOf(SWAP, right, place, length, taste >> 3 * right & 7) != NONE) {
                     note(rank);
                 }
@@ -1948,7 +1949,7 @@ public final class DishLines {
                 int stander = high % THINGS;
                 for (int thing = 0; thing < THINGS && (standers >> stander & 1) == 1; thing++) {
                     int rank = to + (thing - stander) * unit;
-                    if (valley.standIn[thing] == stander && far[rank] == NONE
+                    if (valley.standIn[thing] == stander && rank >= 0 && rank < DISHES && far[rank] == NONE
                         && scale.weightOf(STAND, thing, place, length, (taste >> 3 * thing & 7) + 1) != NONE) {
                         note(rank);
                     }
